@@ -11,9 +11,9 @@ public final class FieldBases {
     private static final int MOST_POWER = 1000000000;
     private static final int MOST_ROOTS_TOLD = 8;
 
-    private final Field numbers = new Field();
-    private final Frame frame = new Frame();
-    private final Measure measure = new Measure(numbers, frame);
+    private final Measure measure = new Measure();
+    private final Field numbers = measure.numbers;
+    private final Frame frame = measure.frame;
     private final State now = new State();
     private final State kept = new State();
     private final Past past = new Past();
@@ -844,7 +844,11 @@ public final class FieldBases {
 
         /** NONE for 0 and for numbers below it. */
         static int degreeOf(int p) {
-            return p <= 0 ? NONE : 31 - Integer.numberOfLeadingZeros(p);
+            int degree = NONE;
+            for (int rest = p; rest > 0; rest >>= 1) {
+                degree++;
+            }
+            return degree;
         }
 
         static int remainder(int p, int q) {
@@ -936,6 +940,8 @@ public final class FieldBases {
         int size;
         final int[] powers = new int[256];
         final int[] logs = new int[256];
+        // which of 1, x, x^2, .. have the trace 1: sums of them have the sum of the traces
+        private int tracedOnes;
 
         void settle(int n) {
             modulus = n;
@@ -944,6 +950,10 @@ public final class FieldBases {
             boolean done = false;
             for (int g = 2; g < size && !done; g++) {
                 done = fills(g);
+            }
+            tracedOnes = 0;
+            for (int k = 0; k < degree; k++) {
+                tracedOnes |= tracedTo(1 << k, 1) << k;
             }
         }
 
@@ -1058,6 +1068,10 @@ public final class FieldBases {
             return sum;
         }
 
+        int tracedToOne(int a) {
+            return Integer.bitCount(a & tracedOnes) & 1;
+        }
+
         int normedTo(int a, int d) {
             int step = d < 1 ? 1 : d;
             int found = 1;
@@ -1153,13 +1167,8 @@ public final class FieldBases {
 
     /** What is asked of lists of m elements of a field. */
     private static final class Measure {
-        private final Field numbers;
-        private final Frame frame;
-
-        Measure(Field numbers, Frame frame) {
-            this.numbers = numbers;
-            this.frame = frame;
-        }
+        final Field numbers = new Field();
+        final Frame frame = new Frame();
 
         int complexityOf(int[] elements) {
             frame.holds(elements, numbers.degree);
@@ -1229,7 +1238,7 @@ public final class FieldBases {
             frame.empties();
             for (int a = 1; a < numbers.size && frame.rank < d; a++) {
                 int place = frame.rank;
-                if (numbers.squared(a, d) == a && frame.takes(a) && place < MOST_DEGREE) {
+                if (place < into.length && numbers.squared(a, d) == a && frame.takes(a)) {
                     into[place] = a;
                 }
             }
@@ -1267,7 +1276,7 @@ public final class FieldBases {
         int traceBits(int[] elements, int element) {
             int bits = 0;
             for (int j = 0; j < numbers.degree; j++) {
-                bits |= numbers.tracedTo(numbers.times(elements[j], element), 1) << j;
+                bits |= numbers.tracedToOne(numbers.times(elements[j], element)) << j;
             }
             return bits;
         }
@@ -1275,8 +1284,10 @@ public final class FieldBases {
         void fillsDual(int[] into, int[] elements) {
             for (int a = 1; a < numbers.size; a++) {
                 int bits = traceBits(elements, a);
-                if (Integer.bitCount(bits) == 1) {
-                    into[Integer.numberOfTrailingZeros(bits) & 7] = a;
+                for (int j = 0; j < numbers.degree; j++) {
+                    if (bits == 1 << j) {
+                        into[j] = a;
+                    }
                 }
             }
         }
