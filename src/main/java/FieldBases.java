@@ -845,8 +845,8 @@ public final class FieldBases {
         /** NONE for 0 and for numbers below it. */
         static int degreeOf(int p) {
             int degree = NONE;
-            for (int rest = p; rest > 0; rest >>= 1) {
-                degree++;
+            for (int k = 0; k < 31 && p >> k > 0; k++) {
+                degree = k;
             }
             return degree;
         }
